@@ -675,10 +675,12 @@ public final class ButtonTin {
     }
 
     private static final class Draws {
+        private static final long TWO_TO_31 = 2147483648L;
+
         int state;
 
         int next(int n) {
-            state = (int) (state * 1103515245L + 12345L & Integer.MAX_VALUE);
+            state = (int) ((state * 1103515245L + 12345L) % TWO_TO_31);
             return n > 0 ? state / 65536 % n : 0;
         }
     }
@@ -892,12 +894,12 @@ public final class ButtonTin {
                 return NONE;
             }
             int best = NONE;
-            int least = Integer.MAX_VALUE;
+            int least = 0;
             for (int place = 0; place < count(RULE); place++) {
                 int r = cloth.order[place];
                 int mark = mark(b, telling.value(RULE, r, 0));
                 int step = Math.abs(mark - telling.value(RULE, r, 2));
-                if (step < least) {
+                if (best == NONE || step < least) {
                     least = step;
                     best = 10 * r + mark;
                 }

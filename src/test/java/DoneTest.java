@@ -20,6 +20,8 @@ public final class DoneTest {
             Check.due("button(" + b + ", 6)", x.button(b, 6), NONE);
             Check.due("button(" + b + ", 7)", x.button(b, 7), goes[b]);
         }
+        Check.due("out", x.told(10), 50);
+        Check.due("out, the first too", Check.told("t0;b0 1 0 0;b1 1 0 0;r0 0 1 0;").told(10), 1);
         Check.due("button(6, 0)", x.button(6, 0), UNKNOWN);
         Check.due("button(-1, 8)", x.button(-1, 8), UNKNOWN);
         Check.due("button(0, 8)", x.button(0, 8), OUTSIDE);
@@ -102,6 +104,12 @@ public final class DoneTest {
         Check.due("heaviest: 15, 4, 19", x.told(13), 2);
         x.put(3, 0);
         Check.due("heaviest: 19, 0, 19", x.told(13), 0);
+        x.put(0, 5);
+        Check.due("wrong heap, the first too", x.told(11), 11);
+        ButtonTin twelve = Check.told("t0;" + "b0 1 0 0;".repeat(12) + "r0 0 0 5;n1;");
+        Check.due("sort() of twelve", twelve.sort(), 12);
+        Check.due("heap(5)", twelve.heap(5), 4095);
+        Check.due("heaviest", twelve.told(13), 5);
         ButtonTin y = Check.told("t0;b0 4 0 1;");
         y.put(0, 3);
         Check.due("heaviest, of a button that holds nothing", y.told(13), 3);

@@ -70,6 +70,10 @@ public final class TextTest {
         fault("t5;b1 2 3 0 0;", 1, 12);
         fault("t5;b t", 1, 5);
         fault("t-5;", 1, 1);
+        fault("t/;", 1, 1);
+        fault("t0:", 1, 2);
+        fault("t5" + " ".repeat(238), 1, 240);
+        fault("t5;" + " ".repeat(235) + "n5", 1, 240);
         fault("t0000;", 2, 1);
         fault("t1000", 2, 1);
         fault("t 12345678901234567890", 2, 2);
@@ -87,6 +91,7 @@ public final class TextTest {
         fault("t0;r0 0 0 6;", 2, 10);
         fault("t0;u5 1 0 0;", 2, 4);
         fault("t0;u0 0 0 0;", 2, 6);
+        fault("t0;u0 10 0 0;", 2, 6);
         fault("t0;u0 1 6 0;", 2, 8);
         fault("t0;u0 1 0 2;", 2, 10);
         fault("t0;n100;", 2, 4);
@@ -119,6 +124,43 @@ public final class TextTest {
         }
         Check.due("need(0, 0)", x.need(0, 0), 7);
         Check.due("need(1, 0)", x.need(1, 0), 99);
+    }
+
+    /** As many of each as there may be, no two of a kind alike, in all 240 letters. */
+    private static void fullText() {
+        StringBuilder text = new StringBuilder("t9;");
+        for (int i = 0; i < 12; i++) {
+            text.append('b').append(i % 5).append(' ').append(i % 9 + 1).append(' ').append(i % 6).append(' ').append(i % 2).append(';');
+        }
+        for (int i = 0; i < 6; i++) {
+            text.append('r').append(i % 4).append(' ').append(i % 3).append(' ').append(9 - i).append(' ').append(5 - i).append(';');
+        }
+        for (int i = 0; i < 5; i++) {
+            text.append('u').append(4 - i).append(' ').append(9 - i).append(' ').append(5 - i).append(' ').append(1 - i % 2).append(';');
+        }
+        text.append("n1;n22;n3;n44;n5;");
+        ButtonTin x = Check.told(text + " ".repeat(240 - text.length()));
+        Check.due("E", x.told(0), 9);
+        for (int i = 0; i < 12; i++) {
+            int[] marks = {i % 5, i % 9 + 1, i % 6, i % 2};
+            for (int m = 0; m < 4; m++) {
+                Check.due("button(" + i + ", " + m + ")", x.button(i, m), marks[m]);
+            }
+        }
+        for (int i = 0; i < 6; i++) {
+            int[] parts = {i % 4, i % 3, 9 - i, 5 - i, i};
+            for (int part = 0; part < 5; part++) {
+                Check.due("rule(" + i + ", " + part + ")", x.rule(i, part), parts[part]);
+            }
+        }
+        for (int i = 0; i < 5; i++) {
+            int[] marks = {4 - i, 9 - i, 5 - i, 1 - i % 2};
+            for (int m = 0; m < 4; m++) {
+                Check.due("cause(" + i + ", " + m + ")", x.cause(i, m), marks[m]);
+            }
+            Check.due("need(" + i + ", 0)", x.need(i, 0), new int[] {1, 22, 3, 44, 5}[i]);
+        }
+        Check.due("in the tin", x.told(6), 4095);
     }
 
     /** A fault leaves all as it was but the text; a text without one makes all new but the seed. */
@@ -155,6 +197,9 @@ public final class TextTest {
         Check.due("no image", x.goBack(0), ButtonTin.NOT);
         Check.due("no needs", x.need(0, 0), ButtonTin.UNKNOWN);
         Check.due("the seed stays", x.seed(1), 77);
+        Check.feedAll(x, "t5;b2 3 0 0;b1 1 1 0;");
+        Check.due("tin()", x.tin(), 2);
+        Check.due("no thread as told", x.button(1, 3), 0);
         x.keep(1);
         x.feed(' ');
         Check.due("tin() of a blank", x.tin(), 0);
@@ -172,6 +217,7 @@ public final class TextTest {
         feeding();
         faults();
         fineTexts();
+        fullText();
         tellingAgain();
         Check.due("told(-1)", new ButtonTin().told(-1), ButtonTin.OUTSIDE);
         Check.due("told(16)", new ButtonTin().told(16), ButtonTin.OUTSIDE);

@@ -60,6 +60,28 @@ public final class TriedTest {
         Check.due("tells(-1)", x.tells(-1), OUTSIDE);
     }
 
+    /** Holes 0 against 1: the first test, 'is 0', counts among those that are told apart. */
+    private static void fitsWithTheFirstTest() {
+        ButtonTin x = Check.told("t0;b0 3 0 0;b1 3 0 0;b0 9 0 0;b4 3 0 0;");
+        x.put(0, 0);
+        x.put(1, 1);
+        Check.due("fit(0, NONE): is 0, 0 or less", x.fit(0, NONE), 2);
+        Check.due("fit(0, 0)", x.fit(0, 0), 0);
+        Check.due("fit(0, 1)", x.fit(0, 1), 20);
+        Check.due("tells(0)", x.tells(0), NONE);
+        Check.due("tells(1): is 1, 1 or more", x.tells(1), 3);
+        ButtonTin y = Check.told("t0;b1 3 0 0;b0 3 0 0;b1 4 0 0;b1 9 0 0;");
+        y.put(1, 0);
+        y.put(2, 1);
+        Check.due("fit(0, NONE): holes 0, size 3", y.fit(0, NONE), 4);
+        Check.due("tells(0): the first passes two of four", y.tells(0), 0);
+        ButtonTin z = Check.told("t0;b0 3 0 0;b1 5 0 0;b1 3 0 0;b0 4 0 0;");
+        z.put(0, 0);
+        z.put(1, 1);
+        Check.due("fit(0, NONE)", z.fit(0, NONE), 5);
+        Check.due("tells(0): both pass three of five", z.tells(0), 2);
+    }
+
     /** The edge and the tin do not count, nor does what is sewn. */
     private static void fitsByHeapsAlone() {
         ButtonTin x = Check.told("t0;b2 3 0 0;b2 3 0 0;b2 3 0 0;r0 0 0 5;n9;");
@@ -126,6 +148,13 @@ public final class TriedTest {
         Check.due("need by need the lesser", y.match(3), 2);
         Check.due("what is left", y.match(4), 3);
 
+        ButtonTin five = Check.told("t0;b0 5 0 0;b0 4 0 0;b0 3 0 0;b0 2 0 0;b0 1 0 0;n1;n2;n3;n4;n5;");
+        Check.due("all five", five.match(NONE), 5);
+        Check.due("how much", five.match(-2), 15);
+        for (int n = 0; n < 5; n++) {
+            Check.due("match(" + n + ")", five.match(n), 4 - n);
+        }
+
         // one button for two needs alike: the first has it
         ButtonTin z = Check.told("t0;b0 4 0 0;n3;n3;");
         Check.due("none last", z.match(0), 0);
@@ -155,6 +184,12 @@ public final class TriedTest {
         Check.due("load(50): all", x.load(50), 63);
         Check.due("load(51)", x.load(51), NONE);
         Check.due("load(999)", x.load(999), NONE);
+        ButtonTin twelve = Check.told("t0;" + "b0 1 0 0;".repeat(11) + "b0 2 0 0;");
+        Check.due("load(13): all twelve", twelve.load(13), 4095);
+        Check.due("load(14)", twelve.load(14), NONE);
+        Check.due("load(7): 2 and 5, not 1, 1 and 5", Check.told("t0;b0 1 0 0;b0 1 0 0;b0 2 0 0;b0 5 0 0;").load(7), 12);
+        Check.due("load(2)", twelve.load(2), 2048);
+        Check.due("load(3)", twelve.load(3), 2049);
         x.put(2, 0);
         Check.due("load(11) of the tin", x.load(11), 3);
         x.sort();
@@ -211,6 +246,9 @@ public final class TriedTest {
         Check.due("alike(0)", x.alike(0), 105);
         Check.due("alike(1)", x.alike(1), NONE);
         Check.due("alike(-2)", x.alike(-2), NONE);
+        Check.due("holes unlike", Check.told("t0;b0 1 0 0;b1 1 0 0;").alike(NONE), 0);
+        Check.due("size unlike", Check.told("t0;b0 1 0 0;b0 2 0 0;").alike(NONE), 0);
+        Check.due("kind unlike", Check.told("t0;b0 1 0 0;b0 1 1 0;").alike(NONE), 0);
         x.pull(5);
         Check.due("alike(NONE), pulled", x.alike(NONE), 0);
         x.pull(1);
@@ -242,6 +280,7 @@ public final class TriedTest {
     public static void main(String[] args) {
         fitsOfOneHeap();
         fitsOfSeveral();
+        fitsWithTheFirstTest();
         fitsByHeapsAlone();
         taught();
         matched();
