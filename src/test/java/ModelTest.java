@@ -75,8 +75,14 @@ public final class ModelTest {
         call("fault", 0, 0);
     }
 
-    /** Mostly one of those that there are, at times one of the two that are just beyond. */
+    private static final int[] WILD = {Integer.MIN_VALUE, Integer.MIN_VALUE + 1, -1000000004, -1000000001, -65536, -256, -32, -3, -2,
+        16, 31, 32, 33, 63, 64, 120, 255, 256, 4095, 65536, 1 << 30, Integer.MAX_VALUE - 1, Integer.MAX_VALUE};
+
+    /** Mostly one of those that there are, at times one of the two that are just beyond, or one that is far. */
     private int known(int many) {
+        if (random.nextInt(40) == 0) {
+            return WILD[random.nextInt(WILD.length)];
+        }
         return many == 0 || random.nextInt(12) == 0 ? random.nextInt(2) == 0 ? -1 : many : random.nextInt(many);
     }
 
@@ -91,7 +97,7 @@ public final class ModelTest {
             case "sew" -> call(name, button, need);
             case "unpick" -> call(name, need, 0);
             case "up" -> call(name, known(plain.told(2)), 0);
-            case "drift" -> call(name, random.nextInt(4) == 0 ? between(0, 61) : between(1, 5), 0);
+            case "drift" -> call(name, random.nextInt(4) == 0 ? known(62) : between(1, 5), 0);
             case "keep", "goBack" -> call(name, known(2), 0);
             case "seed" -> call(name, random.nextInt(5) == 0 ? random.nextInt() : between(0, Integer.MAX_VALUE - 1), 0);
             case "told" -> call(name, known(16), 0);
@@ -100,13 +106,13 @@ public final class ModelTest {
             case "cause" -> call(name, known(plain.told(3)), known(4));
             case "need" -> call(name, need, known(2));
             case "heap", "tells" -> call(name, heap, 0);
-            case "fit" -> call(name, heap, random.nextInt(3) == 0 ? -1 : between(-2, random.nextInt(2) == 0 ? 5 : 60));
+            case "fit" -> call(name, heap, random.nextInt(3) == 0 ? -1 : random.nextInt(20) == 0 ? known(1) : between(-2, random.nextInt(2) == 0 ? 5 : 60));
             case "teach" -> call(name, known(120), 0);
             case "match" -> call(name, random.nextInt(3) == 0 ? between(-3, -1) : need, 0);
-            case "load" -> call(name, random.nextInt(6) == 0 ? between(0, 1000) : between(1, 12 * plain.told(1) + 1), 0);
+            case "load" -> call(name, random.nextInt(6) == 0 ? known(1001) : between(1, 12 * plain.told(1) + 1), 0);
             case "slips" -> call(name, button, known(plain.told(3)));
             case "undid" -> call(name, button, known(3));
-            case "alike" -> call(name, between(-2, 8), 0);
+            case "alike" -> call(name, random.nextInt(10) == 0 ? known(1) : between(-2, 8), 0);
             case "child" -> call(name, known(61), 0);
             default -> call(name, 0, 0);
         }
