@@ -53,7 +53,8 @@ public final class LanguageTest {
         forbid(source, "5: no static block", "\\bstatic\\s*\\{");
         forbid(source, "3: no arrays of three dimensions", "\\[\\]\\[\\]\\[\\]");
         forbid(source, "2: classes inside are static", "(?m)^\\s+(private )?(final )?class\\b");
-        forbid(source, "System but for arraycopy", "\\bSystem\\.(?!arraycopy\\b)");
+        forbid(source, "4: the library: only what stands there, no constants of it",
+            "\\b(?!Bench\\.|System\\.arraycopy\\b)[A-Z]\\w*[a-z]\\w*\\.(?!(bitCount|numberOfTrailingZeros|max|min|abs)\\b)\\w+");
         checkMethods(source);
         Check.finish();
     }
